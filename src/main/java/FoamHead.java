@@ -14,7 +14,7 @@ public final class FoamHead {
     private static final int GLASS = 16;
     private static final int WIDEST = 4;
     /** No two GLASSES stand together in a RING, so 15 others and as many GLASSES are the most there can be. */
-    private static final int RING_MOST = 40;
+    private static final int RING_MOST = 30;
     private static final int MOST = 99999;
     private static final int DRAINED_MOST = 1999999999;
     private static final int TICKS_MOST = 9999;

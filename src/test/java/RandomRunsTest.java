@@ -411,10 +411,11 @@ public final class RandomRunsTest {
         x.foam(w, h, g);
         Model m = new Model(w, h, g);
         setRules(x, m);
-        for (int i = 0; i < 40; i++) {
+        for (int i = 0; i < 60; i++) {
             int a = draw(16);
             int b = draw(16);
-            act(x, m, a, b);
+            // ticks soon leave three bubbles only, so some runs have none
+            act(x, m, a, b, draw(run % 3 == 0 ? 7 : 8));
             same(x, m, "run " + run + ", act " + i + ": ");
         }
     }
@@ -442,10 +443,10 @@ public final class RandomRunsTest {
         x.seed(m.seed);
     }
 
-    private static void act(FoamHead x, Model m, int a, int b) {
+    private static void act(FoamHead x, Model m, int a, int b, int which) {
         boolean wall = m.wall(a, b);
         int no = LOW - (m.has(a) && m.has(b) ? 3 : 1);
-        switch (draw(8)) {
+        switch (which) {
             case 0: case 1: case 2:
                 boolean turns = wall && m.canTurn(a, b);
                 if (turns) {
