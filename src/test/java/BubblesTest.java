@@ -1,33 +1,5 @@
 /** Promises 1 to 13: bubbles and walls. */
-public final class BubblesTest {
-    private static final int LOW = -1000000;
-    private static final int BEYOND = LOW - 1;
-    private static final int NONE = LOW - 2;
-    private static final int STATE = LOW - 3;
-    private static final int KIND = LOW - 5;
-    private static int wrong = 0;
-
-    private static void due(String call, long got, long want) {
-        if (got != want) {
-            wrong++;
-            System.out.println(call + " answered " + got + ", due is " + want);
-        }
-    }
-
-    private static void dueRing(FoamHead x, int bubble, int... want) {
-        for (int i = 0; i < want.length; i++) {
-            due("ring(" + bubble + ", " + i + ")", x.ring(bubble, i), want[i]);
-        }
-        due("ring(" + bubble + ", " + want.length + ")", x.ring(bubble, want.length), NONE);
-        due("bubbleIs(" + bubble + ", 4)", x.bubbleIs(bubble, 4), want.length);
-    }
-
-    private static FoamHead foam(int w, int h, int gas) {
-        FoamHead x = new FoamHead();
-        due("foam", x.foam(w, h, gas), w * h);
-        return x;
-    }
-
+public final class BubblesTest extends Checks {
     public static void main(String[] args) {
         aNewObject();
         makesAFoam();
@@ -44,9 +16,7 @@ public final class BubblesTest {
         vanishes();
         bursts();
         burstsAtTheGlass();
-        if (wrong != 0) {
-            System.exit(1);
-        }
+        end();
     }
 
     private static void aNewObject() {

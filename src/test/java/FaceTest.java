@@ -10,19 +10,17 @@ import java.util.regex.Matcher;
 import java.util.regex.Pattern;
 
 /** The public face, and what ../shared/LANGUAGE.md rules out as far as a text search can see it. */
-public final class FaceTest {
+public final class FaceTest extends Checks {
     private static final String FACE = "foam(int,int,int) bubbleIs(int,int) as(int,int) become(int,int) "
         + "fill(int,int,int) ring(int,int) beside(int,int) end(int,int,int) can(int,int,int) turn(int,int) "
         + "vanish(int) burst(int,int) feed(long,int) text(int) untell(int) rule(int,int) passes(int,int) tick(int) "
         + "stands(int,int) seed(int) all(int) pace(int) sides(int) around(int) first(int) way(int,int) "
         + "colour(int,int) apart(int) marked(int) voice(int,int,int) body(int) sheet(int,int,int) put(int,int,int) "
         + "move(int,int,int,int,int) gases(int) image() restore() tell(int) check(int) count(int) told(int)";
-    private static int wrong = 0;
 
     private static void due(boolean so, String what) {
         if (!so) {
-            wrong++;
-            System.out.println(what);
+            wrong(what);
         }
     }
 
@@ -30,9 +28,7 @@ public final class FaceTest {
         methods();
         othersAreHidden();
         source();
-        if (wrong != 0) {
-            System.exit(1);
-        }
+        end();
     }
 
     private static void methods() {

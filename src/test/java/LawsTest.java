@@ -1,47 +1,5 @@
 /** Promises 14 to 22: laws in texts, ticks. */
-public final class LawsTest {
-    private static final int LOW = -1000000;
-    private static final int BEYOND = LOW - 1;
-    private static final int NONE = LOW - 2;
-    private static final int STATE = LOW - 3;
-    private static final int FULL = LOW - 4;
-    private static final int LAW = 0;
-    private static final int BURST = 1;
-    private static final int MARK = 2;
-    private static int wrong = 0;
-
-    private static void due(String call, long got, long want) {
-        if (got != want) {
-            wrong++;
-            System.out.println(call + " answered " + got + ", due is " + want);
-        }
-    }
-
-    private static FoamHead foam(int w, int h, int gas) {
-        FoamHead x = new FoamHead();
-        due("foam", x.foam(w, h, gas), w * h);
-        return x;
-    }
-
-    /** The same bytes come in other portions each time, so that all portions are tried. */
-    private static int portion = 0;
-
-    private static int text(FoamHead x, int use, String text) {
-        for (int i = 0; i < text.length();) {
-            portion = portion % 8 + 1;
-            int n = Math.min(portion, text.length() - i);
-            long word = -1L;
-            for (int j = n - 1; j >= 0; j--) {
-                word = word << 8 | text.charAt(i + j);
-            }
-            i += n;
-            due("feed", x.feed(word, n), i);
-        }
-        int answer = x.text(use);
-        due("count(4) behind " + text, x.count(4), 0);
-        return answer;
-    }
-
+public final class LawsTest extends Checks {
     public static void main(String[] args) {
         feeds();
         worksTextsOut();
@@ -59,9 +17,7 @@ public final class LawsTest {
         stands();
         seeds();
         countsAll();
-        if (wrong != 0) {
-            System.exit(1);
-        }
+        end();
     }
 
     private static void feeds() {

@@ -3,20 +3,12 @@ import java.util.Collections;
 import java.util.List;
 
 /** Runs of random calls: against a second, plain model of the foam, then any call with any numbers. */
-public final class RandomRunsTest {
-    private static final int LOW = -1000000;
-    private static int wrong = 0;
+public final class RandomRunsTest extends Checks {
     private static int z = 99;
 
     private static int draw(int n) {
         z = z * 1103515245 + 12345;
         return (z >>> 8) % n;
-    }
-
-    private static void due(String call, long got, long want) {
-        if (got != want && wrong++ < 20) {
-            System.out.println(call + " answered " + got + ", due is " + want);
-        }
     }
 
     public static void main(String[] args) {
@@ -29,10 +21,7 @@ public final class RandomRunsTest {
         for (int run = 0; run < 200; run++) {
             anyCallAnswers(run);
         }
-        if (wrong != 0) {
-            System.out.println(wrong + " wrong");
-            System.exit(1);
-        }
+        end();
     }
 
     // ---- the model
@@ -393,12 +382,6 @@ public final class RandomRunsTest {
             text.append(signs.charAt(draw(signs.length()))).append(made(names, level + 1, open));
         }
         return text.toString();
-    }
-
-    private static void feed(FoamHead x, String text) {
-        for (int i = 0; i < text.length(); i++) {
-            x.feed(text.charAt(i), 1);
-        }
     }
 
     // ---- runs against the model

@@ -1,30 +1,5 @@
 /** Promises 23 to 30: what is seen; hand-made answers, then slow searches over many foams. */
-public final class SeenTest {
-    private static final int LOW = -1000000;
-    private static final int BEYOND = LOW - 1;
-    private static final int NONE = LOW - 2;
-    private static int wrong = 0;
-
-    private static void due(String call, long got, long want) {
-        if (got != want) {
-            wrong++;
-            System.out.println(call + " answered " + got + ", due is " + want);
-        }
-    }
-
-    private static FoamHead foam(int w, int h, int gas) {
-        FoamHead x = new FoamHead();
-        due("foam", x.foam(w, h, gas), w * h);
-        return x;
-    }
-
-    private static void text(FoamHead x, int use, String text) {
-        for (int i = 0; i < text.length(); i++) {
-            x.feed(text.charAt(i), 1);
-        }
-        due("text " + text, x.text(use), 1);
-    }
-
+public final class SeenTest extends Checks {
     public static void main(String[] args) {
         tellsPace();
         countsSides();
@@ -36,9 +11,7 @@ public final class SeenTest {
         marks();
         nothingIsSeenInNoFoam();
         agreesWithSlowSearches();
-        if (wrong != 0) {
-            System.exit(1);
-        }
+        end();
     }
 
     private static void tellsPace() {

@@ -1,35 +1,5 @@
 /** Promises 31 to 42: voices, sheets, images, what is told. */
-public final class VoicesTest {
-    private static final int LOW = -1000000;
-    private static final int BEYOND = LOW - 1;
-    private static final int NONE = LOW - 2;
-    private static final int STATE = LOW - 3;
-    private static final int FULL = LOW - 4;
-    private static final int KIND = LOW - 5;
-    private static final int PARTED = LOW - 6;
-    private static int wrong = 0;
-
-    private static void due(String call, long got, long want) {
-        if (got != want) {
-            wrong++;
-            System.out.println(call + " answered " + got + ", due is " + want);
-        }
-    }
-
-    private static FoamHead foam(int w, int h, int gas) {
-        FoamHead x = new FoamHead();
-        due("foam", x.foam(w, h, gas), w * h);
-        return x;
-    }
-
-    private static void dueTrace(FoamHead x, int... want) {
-        due("count(6)", x.count(6), want.length);
-        for (int i = 0; i < want.length; i++) {
-            due("body(" + i + ")", x.body(i), want[i]);
-        }
-        due("body(" + want.length + ")", x.body(want.length), NONE);
-    }
-
+public final class VoicesTest extends Checks {
     public static void main(String[] args) {
         speaks();
         traces();
@@ -44,9 +14,7 @@ public final class VoicesTest {
         checksRings();
         counts();
         tellsErrors();
-        if (wrong != 0) {
-            System.exit(1);
-        }
+        end();
     }
 
     private static void speaks() {
@@ -358,12 +326,6 @@ public final class VoicesTest {
         due("check(4)", x.check(4), 1);
         tell(x, 1, 2, 5, 8, 7, 3);
         due("check(4)", x.check(4), 0);
-    }
-
-    private static void tell(FoamHead x, int... numbers) {
-        for (int i = 0; i < numbers.length; i++) {
-            due("tell(" + numbers[i] + ")", x.tell(numbers[i]), i + 1);
-        }
     }
 
     private static void counts() {
