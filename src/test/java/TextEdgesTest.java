@@ -120,6 +120,12 @@ public final class TextEdgesTest extends Checks {
         text.setCharAt(58, '1');
         text.setCharAt(59, '-');
         dueFault(MARK, text.toString(), 60);
+        text.setLength(0);
+        text.append("!w");
+        while (text.length() < 60) {
+            text.append("+s");
+        }
+        dueValue(text.toString(), 1 + 29);
     }
 
     // ---- promise 15: FAULTS

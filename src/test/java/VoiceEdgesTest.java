@@ -502,10 +502,13 @@ public final class VoiceEdgesTest extends Checks {
             x.fill(b, 1, 50 + b);
             x.become(b, b % 7);
         }
-        x.tick(3);
-        x.turn(5, 6);
-        x.vanish(15);
-        x.burst(9, 10);
+        due("tick(3)", x.tick(3), 16);
+        due("turn(5, 6)", x.turn(5, 6), 5);
+        due("vanish(15)", x.vanish(15), 15);
+        due("burst(9, 10)", x.burst(9, 10), 9);
+        for (int what = 2; what < 6; what++) {
+            due("all(" + what + ") is not 0", x.all(what) > 0 ? 1 : 0, 1);
+        }
         feed(x, "g-1");
         tell(x, 1, 4, 16);
         return x;
@@ -525,11 +528,11 @@ public final class VoiceEdgesTest extends Checks {
         x.seed(99);
         x.foam(2, 2, 7);
         x.fill(1, 1, 77);
-        x.tick(5);
-        x.turn(1, 2);
-        x.vanish(0);
         feed(x, "1+2+3");
-        due("restore()", x.restore(), lived().count(0));
+        for (int what = 0; what < 6; what++) {
+            due("all(" + what + ") is not as it was", x.all(what) == lived().all(what) ? 1 : 0, 0);
+        }
+        due("restore()", x.restore(), 14);
         due("what is seen", Sight.image(x), Sight.image(lived()));
     }
 
