@@ -1112,7 +1112,12 @@ public final class FoamHead {
             }
         }
 
-        private void single(int open) {
+        private void single(int outside) {
+            int open = outside;
+            while (open < OPEN_MOST && nextIs('!')) {
+                place++;
+                open++;
+            }
             int c = next();
             int name = c < 0 ? -1 : names.indexOf((char) c);
             if (isDigit(c)) {
@@ -1120,16 +1125,15 @@ public final class FoamHead {
             } else if (name >= 0 && name < NAMES) {
                 place++;
                 note(Text.ofName(name));
-            } else if (c == '!' && open < OPEN_MOST) {
-                place++;
-                single(open + 1);
-                note(Text.ofSign('!'));
             } else if (c == '(' && open < OPEN_MOST) {
                 place++;
                 either(open + 1);
                 close();
             } else {
                 wrong = true;
+            }
+            for (int i = outside; i < open; i++) {
+                note(Text.ofSign('!'));
             }
         }
 
@@ -1406,46 +1410,46 @@ public final class FoamHead {
 
         boolean canPaint(int k) {
             Arrays.fill(painted, 0);
-            return paintFrom(0, k, 0);
+            return paintFrom(this, 0, k, 0);
         }
 
         /** Colours that none has yet are all alike, so of these only the least is tried. */
-        private boolean paintFrom(int b, int k, int used) {
+        private static boolean paintFrom(Search in, int b, int k, int used) {
             if (b < 0 || b >= BUBBLES) {
                 return true;
             }
-            if ((alive >>> b & 1) == 0) {
-                return paintFrom(b + 1, k, used);
+            if ((in.alive >>> b & 1) == 0) {
+                return paintFrom(in, b + 1, k, used);
             }
             int tried = Math.min(COLOURS, Math.min(k, used + 1));
             for (int c = 0; c < tried; c++) {
-                if ((painted[c] & beside[b]) == 0) {
-                    painted[c] |= 1 << b;
-                    colours[b] = c;
-                    if (paintFrom(b + 1, k, Math.max(used, c + 1))) {
+                if ((in.painted[c] & in.beside[b]) == 0) {
+                    in.painted[c] |= 1 << b;
+                    in.colours[b] = c;
+                    if (paintFrom(in, b + 1, k, Math.max(used, c + 1))) {
                         return true;
                     }
-                    painted[c] &= ~(1 << b);
+                    in.painted[c] &= ~(1 << b);
                 }
             }
             return false;
         }
 
         int mostApart() {
-            return apartIn(alive, BUBBLES - 1);
+            return apartIn(alive, BUBBLES - 1, beside);
         }
 
         /** The greatest number weighs most in a set as bits: it is in it only if that makes the set greater. */
-        private int apartIn(int set, int top) {
+        private static int apartIn(int set, int top, int[] beside) {
             if (set == 0 || top < 0 || top >= BUBBLES) {
                 return 0;
             }
             int bit = 1 << top;
-            int without = apartIn(set & ~bit, top - 1);
+            int without = apartIn(set & ~bit, top - 1, beside);
             if ((set & bit) == 0) {
                 return without;
             }
-            int with = apartIn(set & ~bit & ~beside[top], top - 1) | bit;
+            int with = apartIn(set & ~bit & ~beside[top], top - 1, beside) | bit;
             return Integer.bitCount(with) > Integer.bitCount(without) ? with : without;
         }
     }
